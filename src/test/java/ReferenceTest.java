@@ -10,8 +10,9 @@ import java.util.Set;
  * down from the question by recursion and is stuck where it meets itself again.
  */
 final class ReferenceTest {
-    private static final int RUNS = 6000;
-    private static final int CALLS = 200;
+    private static final int RUNS = 2500;
+    // As many as the document lets an object be used for.
+    private static final int CALLS = 512;
     private static final int WRONG_ENOUGH = 20;
 
     private static final Checks CHECKS = new Checks();
@@ -34,6 +35,11 @@ final class ReferenceTest {
         return (int) ((seed >>> 33) % bound);
     }
 
+    /** Now and then another number with the same two lowest bits, of any size and sign. */
+    private static int masked(int low) {
+        return below(8) == 0 ? below(Integer.MAX_VALUE) << 2 | low : low;
+    }
+
     private static void makeRun(int run) {
         PegTables x = new PegTables();
         Reference y = new Reference();
@@ -51,15 +57,15 @@ final class ReferenceTest {
         int place = below(24) - 1;
         if (kind < 40) {
             int code = below(60) == 0 ? below(20) - 5 : below(10) < simple ? below(4) : 4 + below(7);
-            int arg = code == PegTables.LETTER ? below(letters) : below(4);
+            int arg = masked(code == PegTables.LETTER ? below(letters) : below(4));
             CHECKS.due(at + "token(" + code + ", " + arg + ")", x.token(code, arg), y.token(code, arg));
         } else if (kind < 60) {
-            int letter = below(letters);
+            int letter = masked(below(letters));
             CHECKS.due(at + "type(" + letter + ")", x.type(letter), y.type(letter));
-        } else if (kind < 61) {
+        } else if (kind < 62) {
             x.clear();
             y.clear();
-        } else if (kind < 62) {
+        } else if (kind < 63) {
             x.erase();
             y.erase();
         } else if (kind < 80) {
